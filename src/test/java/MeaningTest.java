@@ -179,6 +179,9 @@ public final class MeaningTest {
         T.due("of the WORLD", x.differs(0, 3), -1);
         T.due("no such VERSION", x.differs(0, 4), -2);
         T.due("no such VERSION", x.differs(-1, 0), -2);
+        ClauseBench z = bench("a b", "p: ban x to y; q: ban x to z if b", "p: ban x to y");
+        T.due("an OUTCOME more", z.differs(0, 1), 2);
+        T.due("an OUTCOME less", z.differs(1, 0), 2);
         ClauseBench y = bench("a", "p: ban x to y");
         T.due("no such VERSION", y.differs(0, 1), -2);
         T.due("no such VERSION", y.differs(1, 0), -2);
@@ -207,9 +210,20 @@ public final class MeaningTest {
         T.due("the same VERSION", x.changed(0, 0, 0, 0), -1);
         T.due("no such VERSION", x.changed(0, 2, 0, 0), -1);
         T.due("no such VERSION", x.changed(4, 0, 0, 0), -1);
+        changedAmongDefines();
         Tape.world(x, "not c");
         T.due("of the WORLD", x.changed(0, 1, 0, 1), 1);
         T.due("of the WORLD", x.changed(0, 1, 1, 0), -1);
+    }
+
+    private static void changedAmongDefines() {
+        ClauseBench x = bench("a b", "p: ban x to y if a; define n as b; define m as a; q: ban x to y if n",
+                "define p as a; p: ban x to y if b; define n as a; q: ban x to y unless n");
+        T.due("the first CLAUSE", x.changed(0, 1, 0, 0), 0);
+        T.due("the first CLAUSE", x.changed(0, 1, 0, 1), 1);
+        T.due("no define between", x.changed(0, 1, 1, 0), 3);
+        T.due("no define between", x.changed(0, 1, 1, 1), 0);
+        T.due("none more", x.changed(0, 1, 2, 0), -1);
     }
 
     private static void quarrel() {

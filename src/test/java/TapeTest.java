@@ -90,8 +90,12 @@ public final class TapeTest {
         Tape.version(x, 1, "p: duty x to y by 365 days; q: duty x to y by 010 days");
         T.due("NUMBERS", Tape.written(x, 1), "p: duty x to y by 365 days; q: duty x to y by 10 days");
         int length = x.count(6);
+        Tape.version(x, 2, "p: duty x to y by 100 days; q: duty x to y by 99 days; r: duty x to y by 9 days");
+        T.due("NUMBERS", Tape.written(x, 2), "p: duty x to y by 100 days; q: duty x to y by 99 days; "
+                + "r: duty x to y by 9 days");
+        x.write(1);
         T.due("bytes of OUT", length, 53);
-        T.due("write without", x.write(2), -1);
+        T.due("write without", x.write(3), -1);
         T.due("write without", x.write(4), -1);
         T.due("write without", x.write(-1), -1);
         T.due("OUT stays", x.count(6), length);

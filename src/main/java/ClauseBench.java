@@ -676,18 +676,22 @@ public final class ClauseBench {
             at = 0;
             fault = 0;
             int length = Math.min(sheet.size, LONGEST_TEXT);
+            int behind = 0;
             for (int i = 0; i < length; i++) {
-                int b = sheet.byteAt(i);
-                if (b == ' ' || b == '\n') {
-                    continue;
+                if (i >= behind && !isBlank(sheet.byteAt(i))) {
+                    behind = runEnd(sheet, i, length);
+                    add(tokenOf(sheet, i, behind), i);
                 }
-                int behind = runEnd(sheet, i, length);
-                tokens[size] = tokenOf(sheet, i, behind);
-                places[size] = i;
-                size++;
-                i = behind - 1;
             }
             places[size] = length;
+        }
+
+        private void add(long token, int place) {
+            if (size < tokens.length) {
+                tokens[size] = token;
+                places[size] = place;
+                size++;
+            }
         }
 
         private static int runEnd(Sheet sheet, int from, int length) {
@@ -731,6 +735,10 @@ public final class ClauseBench {
                 number = number * 10 + sheet.byteAt(i) - '0';
             }
             return FIRST_NUMBER - number;
+        }
+
+        private static boolean isBlank(int b) {
+            return b == ' ' || b == '\n';
         }
 
         private static boolean isLetter(int b) {

@@ -108,12 +108,17 @@ public final class MeaningTest {
         T.due("s", table(x, 0, 3), "00001111");
     }
 
-    private static void eightFacts() {
-        ClauseBench x = bench("a b c d e f g h",
+    private static ClauseBench eightBench() {
+        return bench("a b c d e f g h",
                 "p: ban x to y if a and b and c and d and e and f and g and h; q: ban x to y if g and not h; "
                         + "r: ban x to y if h and not g unless f; define n as not a and not b and not c and not d and not e"
                         + " and not f and not g and not h");
+    }
+
+    private static void eightFacts() {
+        ClauseBench x = eightBench();
         for (int which = 0; which < 256; which++) {
+            x = which % 64 == 0 ? eightBench() : x;
             T.due("all of eight", x.holds(0, 0, which), which == 255 ? 1 : 0);
             T.due("the seventh", x.holds(0, 1, which), which >> 6 == 1 ? 1 : 0);
             T.due("the eighth", x.holds(0, 2, which), which >> 5 == 4 ? 1 : 0);

@@ -14,7 +14,7 @@ public final class ModelTest {
             "workdays", "if", "unless", "over", "and", "or", "not", "strike", "replace", "add");
 
     public static void main(String[] args) {
-        int runs = args.length > 0 ? Integer.parseInt(args[0]) : 2500;
+        int runs = args.length > 0 ? Integer.parseInt(args[0]) : 3000;
         int wrong = 0;
         long calls = 0;
         int[] refusals = new int[8];
@@ -27,7 +27,7 @@ public final class ModelTest {
         System.out.println("ModelTest: " + calls + " calls, FAULTS by kind " + Arrays.toString(refusals)
                 + ", FACTS, VERSIONS, RIDERS, WORLDS told " + Arrays.toString(told));
         for (int count : refusals) {
-            wrong += runs >= 2500 && count == 0 ? 1 : 0;
+            wrong += runs >= 3000 && count == 0 ? 1 : 0;
         }
         System.out.println(wrong == 0 ? "ModelTest: all answers are as due" : "ModelTest: failed");
         if (wrong != 0) {
@@ -687,7 +687,7 @@ public final class ModelTest {
         }
 
         boolean go() {
-            for (int step = 0; step < 60 && right && calls < 460; step++) {
+            for (int step = 0; step < 60 && right && calls < 360; step++) {
                 act();
             }
             return right;

@@ -44,6 +44,34 @@ public final class RulesTest {
         T.due("bytes above 127", found(whole, "[^\\x00-\\x7f]"), 0);
         names(code);
         methods(code);
+        library(code);
+        fields(code);
+    }
+
+    /** Rule 4: what is called of the library is what it lists. */
+    private static void library(String code) {
+        Matcher m = Pattern.compile("\\b(Math|Integer|Long|Arrays|System|String|StringBuilder|List|ArrayList)\\b(\\.\\w+)?")
+                .matcher(code);
+        TreeSet<String> listed = new TreeSet<>(java.util.List.of("Math.max", "Math.min", "Integer.bitCount",
+                "Long.bitCount", "Long.numberOfTrailingZeros", "Arrays.copyOfRange", "System.arraycopy", "String"));
+        while (m.find()) {
+            boolean imported = code.startsWith("import java.util.Arrays;", Math.max(0, m.start() - 17));
+            T.due("the source calls " + m.group(), imported || listed.contains(m.group()), true);
+        }
+        T.due("other classes of the library", found(code, "\\b(Map|Set|Object|Iterator|Thread|Class|Character|Double)\\b"), 0);
+        T.due("doubles and floats", found(code, "\\b(double|float)\\b"), 0);
+    }
+
+    /** Rules 5 and 11: static fields are final; a class has some twenty fields. */
+    private static void fields(String code) {
+        T.due("static fields that are not final", found(code, "\\bstatic (?!final )[\\w\\[\\]]+ \\w+( =|;)"), 0);
+        T.due("static arrays that are not written out", found(code, "static final \\w+\\[\\] \\w+ = (?!\\{)"), 0);
+        int own = found(code, "(?m)^ {4}private (final )?(?!static)[\\w\\[\\]]+ \\w+;");
+        T.due("fields of ClauseBench", own > 10 && own <= 20, true);
+        for (String inner : code.split("private static final class ")) {
+            T.due("fields of a class inside", found(inner, "(?m)^ {8}(private )?(final )?(?!return|static)[\\w\\[\\]]+ \\w+;") <= 20,
+                    true);
+        }
     }
 
     private static void names(String code) {
@@ -148,13 +176,13 @@ public final class RulesTest {
         Tape.version(x, 0, text.toString().replace("(a)and", ""));
         before = taken();
         int on = 0;
-        for (int k = 0; k < 250; k++) {
+        for (int k = 0; k < 150; k++) {
             x.feed(0x73747269, 0x6b652070, 0x783b6164, 0x64207078, 0x3a62616e);
             x.feed(0x20782074, 0x6f207920, 0x20202020, 0x20202020, 0x20202020);
             on += x.rider(0, 1) == 24 ? 1 : 0;
         }
-        T.due("RIDERS", on, 250);
-        T.due("their room", taken() - before < 8_000_000, true);
+        T.due("RIDERS", on, 150);
+        T.due("their room", taken() - before < 5_000_000, true);
         before = taken();
         for (int k = 0; k < 512; k++) {
             x.differs(0, 1);

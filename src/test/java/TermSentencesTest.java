@@ -68,6 +68,9 @@ public final class TermSentencesTest {
         S.due("a CLAUSE by a NAME", table(x, 2), "01001111");
         S.due("a NAME of a NAME of a NAME", table(x, 3), "10110000");
         S.due("a CLAUSE by it", table(x, 4), "10110000");
+        ClauseBench z = bench("define n as a; define m as b; p: ban x to y if n; q: ban x to y if m unless n");
+        S.due("not the latest NAME", table(z, 2), "01010101");
+        S.due("two NAMES", table(z, 3), "00100010");
         S.of("II", "A CLAUSE (not define) is MET if its if is so (or there is none) and its unless is not.");
         ClauseBench y = bench("p: ban x to y; q: duty x to y by 5 days if a; r: right x to y unless b; "
                 + "s: ban x to y if a unless b; t: ban x to y if a unless a; u: ban x to y if a or c unless b and c");
@@ -432,11 +435,18 @@ public final class TermSentencesTest {
         S.due("NUMBERS", Tape.written(u, 0), "p: duty x to y by 0 days; q: duty x to y by 7 days; "
                 + "r: duty x to y by 10 days; s: duty x to y by 0 days; t: duty x to y by 100 days; "
                 + "u: duty x to y by 305 days");
+        for (int number = 0; number <= 365; number++) {
+            String text = "p: duty x to y by " + number + " days";
+            ClauseBench v = bench();
+            Tape.version(v, 0, text.replace("by ", number < 10 ? "by 00" : number < 100 ? "by 0" : "by "));
+            S.due("NUMBER " + number, Tape.written(v, 0), text);
+        }
     }
 
     private static void calendar() {
-        ClauseBench x = bench("p: duty x to y by 0 days; q: duty x to y by 1 workdays");
+        String text = "p: duty x to y by 0 days; q: duty x to y by 1 workdays";
         S.of("IV", "CALENDAR: DAYS 0 to 9999;");
+        ClauseBench x = bench(text);
         S.due("ahead of the first", x.due(0, 0, 0, -1), -1);
         S.due("the first", x.due(0, 0, 0, 0), 0);
         S.due("the last", x.due(0, 0, 0, 9999), 9999);
@@ -449,9 +459,11 @@ public final class TermSentencesTest {
             while (next % 7 == 5 || next % 7 == 6) {
                 next++;
             }
+            x = day % 400 == 0 ? bench(text) : x;
             S.due("the WORKDAY behind " + day, x.due(0, 0, 1, day), next);
         }
         S.of("IV", "nor are FREE days told.");
+        x = bench(text);
         x.free(14, true);
         x.free(15, true);
         x.free(9999, true);

@@ -90,6 +90,8 @@ public final class TextSentencesTest {
         reads(padded("p: ban x to y", 900), 1);
         refuses(padded("p: ban x to y", 899) + "|z", 0);
         refuses(padded("p: ban x to y", 899) + ";|", 0);
+        refuses("|" + ";".repeat(900), 0);
+        refuses("p|" + "(".repeat(899), 0);
         S.due("FACTS of 900 bytes", Tape.facts(new ClauseBench(), " ".repeat(899) + "a"), 1);
         ClauseBench x = bench();
         Tape.put(x, padded("p: ban x to y", 900));
@@ -308,6 +310,10 @@ public final class TextSentencesTest {
         S.due("not ( COND )", table("define n as not (a or b)"), "10001000");
         S.due("( COND )", table("define n as (a or b) and c"), "00000111");
         S.due("( COND ) behind", table("define n as c and (a or b)"), "00000111");
+        S.due("side by side", table("define n as (a or b) and (c)"), "00000111");
+        S.due("side by side", table("define n as (a) and (b) or (c)"), "00011111");
+        S.due("side by side within another", table("define n as ((a or b) and (b or c)) and (a)"), "00010101");
+        S.due("side by side of two CONDS", table("define m as (a or b); define n as (c)"), "00001111");
         S.due("within one another", table("define n as not (a and not (b or not (c)))"), "11111011");
         refuses("define n as (|)", 0);
         refuses("define n as (a|", 0);
@@ -319,6 +325,8 @@ public final class TextSentencesTest {
         refuses("define n as |1", 0);
         of("a NAME defined ahead in this VERSION.");
         S.due("a NAME", table("define m as a and b; define n as not m or c"), "11101111");
+        S.due("not the latest NAME", table("define m as a; define o as b; define n as m and not o"), "01000100");
+        S.due("two NAMES", table("define m as a or b; define o as c; p: ban x to y if o unless m"), "00001000");
         refuses("define n as |n", 3);
         refuses("p: ban x to y if |n; define n as a", 3);
         ClauseBench x = bench();
@@ -447,6 +455,10 @@ public final class TextSentencesTest {
         refuses("p: ban x |tu y; p", 0);
         refuses("p: ban x to y if |z over q", 3);
         refuses("p: duty x to y by |366 weeks", 1);
+        ClauseBench x = bench();
+        S.due("a FAULT at its second WORD", Tape.version(x, 0, "p " + LONG + " 5 5 5"), Tape.fault(2, 1));
+        S.due("of the text ahead nothing is left", Tape.version(x, 0, "p"), Tape.fault(1, 0));
+        S.due("of the text ahead nothing is left", Tape.version(x, 0, "p:ban x to y"), 1);
     }
 
     private static void misplaced() {
